@@ -108,7 +108,7 @@ public final class DegreeCores {
     }
 
     private static boolean has(int set, int v) {
-        return (set >> v & 1) == 1;
+        return ((set >> v) & 1) == 1;
     }
 
     /** The least node of a set that is not empty. */
@@ -340,7 +340,8 @@ public final class DegreeCores {
         int least = Integer.bitCount(joins[a]);
         int set = 0;
         int cut = 0;
-        for (int step = 1; step < cutSteps(); step++) {
+        int steps = cutSteps();
+        for (int step = 1; step < steps; step++) {
             int v = leastOf(step);
             cut += cutChange(set, v);
             set ^= 1 << v;
@@ -365,15 +366,16 @@ public final class DegreeCores {
      * Of all sets, the greatest of those whose quotient is the greatest: two such sets together are
      * such a set too, so the greatest has all others in it. Empty where there are no nodes.
      *
-     * <p>Each step puts one node in or out (a Gray code), so that the edges are counted along
-     * instead of anew for each set.
+     * <p>Each step puts one node in or out, the one that the step's lowest bit names (a Gray code):
+     * so every set comes once, and edges are counted along instead of anew for each set.
      */
     private int densestBits() {
         int best = 0;
         int bestEdges = 0;
         int set = 0;
         int edges = 0;
-        for (int step = 1; step < 1 << nodes; step++) {
+        int steps = 1 << nodes;
+        for (int step = 1; step < steps; step++) {
             int v = leastOf(step);
             edges += has(set, v) ? -degreeWithin(set, v) : degreeWithin(set, v);
             set ^= 1 << v;
@@ -388,7 +390,7 @@ public final class DegreeCores {
     private static boolean isDenser(int edges, int size, int otherEdges, int otherSize) {
         int here = edges * otherSize;
         int there = otherEdges * size;
-        return here > there || here == there && size > otherSize;
+        return here > there || (here == there && size > otherSize);
     }
 
     /** The nodes that no cut of fewer than k edges parts from this one. */
@@ -396,7 +398,8 @@ public final class DegreeCores {
         int together = allNodes();
         int set = 0;
         int cut = 0;
-        for (int step = 1; step < cutSteps(); step++) {
+        int steps = cutSteps();
+        for (int step = 1; step < steps; step++) {
             int v = leastOf(step);
             cut += cutChange(set, v);
             set ^= 1 << v;
@@ -407,9 +410,12 @@ public final class DegreeCores {
         return together;
     }
 
-    /** A set and what is not in it are one cut, so the sets without the last node are all cuts. */
+    /**
+     * How many sets a walk over all cuts goes through, one node in or out at a step as for the densest.
+     * A set and what is not in it are one cut, so the sets without the last node are enough.
+     */
     private int cutSteps() {
-        return nodes == 0 ? 0 : 1 << nodes - 1;
+        return nodes == 0 ? 0 : 1 << (nodes - 1);
     }
 
     /** How many more edges lead out of the set when v, in it or not, changes its side. */

@@ -355,6 +355,7 @@ public final class PromisesTest {
         for (int bad : new int[] {-1, 2, FAR, DEEP}) {
             due.is("closed(bad)", x.closed(bad), -2);
             due.is("closed(bad) of edges apart: the first that fits", apart.closed(bad), -2);
+            due.is("closed(bad) of none: the first that fits", new DegreeCores().closed(bad), -2);
         }
     }
 
@@ -545,17 +546,37 @@ public final class PromisesTest {
         due.is("unwant(): the row stays", x.unwant(), 2);
     }
 
+    private static void theseAreJoined(DegreeCores x, int... edges) {
+        for (int i = 0; i + 1 < edges.length; i += 2) {
+            due.is("joined(" + edges[i] + ", " + edges[i + 1] + ")", x.joined(edges[i], edges[i + 1]), 1);
+        }
+    }
+
     private static void make() {
         due.topic("26 make");
         DegreeCores x = row(1, 2, 2, 3, 2);
         due.is("make()", x.make(), 5);
         // 3 takes 1, 2, 4 (want 2); now 0 1 2 4 want 1 each: 0 takes 1, then 2 takes 4.
-        int[] edges = {3, 1, 3, 2, 3, 4, 0, 1, 2, 4};
-        for (int i = 0; i < edges.length; i += 2) {
-            due.is("joined(" + edges[i] + ", " + edges[i + 1] + ")", x.joined(edges[i], edges[i + 1]), 1);
-        }
+        theseAreJoined(x, 3, 1, 3, 2, 3, 4, 0, 1, 2, 4);
         due.is("clear(): as many nodes as numbers", x.clear(), 5);
         due.is("unwant(): the row stays", x.unwant(), 5);
+
+        // Of several that want alike the least comes first: those that are joined with it,
+        DegreeCores others = row(2, 1, 1, 1, 1);
+        due.is("make() of 2 1 1 1 1", others.make(), 3);
+        theseAreJoined(others, 0, 1, 0, 2, 3, 4);
+        // and the one that they are joined with: 0 takes 1, 2, 3, then 1 takes 4, 2, then 3 takes 4.
+        DegreeCores first = row(3, 3, 2, 2, 2);
+        due.is("make() of 3 3 2 2 2", first.make(), 6);
+        theseAreJoined(first, 0, 1, 0, 2, 0, 3, 1, 4, 1, 2, 3, 4);
+        // A making before leaves no edges behind.
+        first.unwant();
+        first.want(0);
+        first.want(1);
+        first.want(1);
+        due.is("make() of 0 1 1", first.make(), 1);
+        theseAreJoined(first, 1, 2);
+        due.is("degree(0)", first.degree(0), 0);
 
         DegreeCores old = complete(6);
         old.want(1);
