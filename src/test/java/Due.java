@@ -9,6 +9,10 @@ final class Due {
         topic = name;
     }
 
+    int asked() {
+        return asked;
+    }
+
     void is(String call, long got, long want) {
         asked++;
         if (got == want) {

@@ -10,12 +10,18 @@ public final class ModelTest {
         -1, 12, 13, 20, 21, 31, 32, 33, 63, 64, -2, -32, 256, Integer.MAX_VALUE, Integer.MIN_VALUE, Integer.MIN_VALUE + 1
     };
 
+    private static final int[] FAR_NUMBERS = {
+        Integer.MIN_VALUE, Integer.MIN_VALUE + 1, -64, -33, -32, -31, -2, -1, 0, 1, 2, 3, 6, 7, 10, 11, 12, 13, 20, 21,
+        31, 32, 33, 63, 64, 219, 220, Integer.MAX_VALUE - 1, Integer.MAX_VALUE
+    };
+
     private ModelTest() {
     }
 
     public static void main(String[] args) {
         everySmallGraph();
         someGreaterGraphs();
+        everyFarArgument();
         everySmallRow();
         someLongerRows();
         mixedRuns();
@@ -37,7 +43,9 @@ public final class ModelTest {
                         }
                     }
                 }
-                both.askAll(nodes);
+                for (int kind = 0; kind < Both.KINDS; kind++) {
+                    both.askAll(kind, nodes);
+                }
             }
         }
     }
@@ -47,18 +55,73 @@ public final class ModelTest {
         for (int i = 0; i < 90; i++) {
             int nodes = 6 + i % 7;
             due.topic("greater graph " + i);
-            Both both = new Both();
-            both.nodes(nodes);
-            int tenths = 1 + random.nextInt(9);
-            for (int a = 0; a < nodes; a++) {
-                for (int b = a + 1; b < nodes; b++) {
-                    if (random.nextInt(10) < tenths) {
-                        both.join(b, a, true);
+            boolean[][] edges = someEdges(random, nodes);
+            // An object for each kind of call, as one is used for 512 calls at most.
+            for (int kind = 0; kind < Both.KINDS; kind++) {
+                Both both = new Both();
+                both.build(edges);
+                both.askAll(kind, nodes);
+            }
+        }
+    }
+
+    private static boolean[][] someEdges(Random random, int nodes) {
+        boolean[][] edges = new boolean[nodes][nodes];
+        int tenths = 1 + random.nextInt(9);
+        for (int a = 0; a < nodes; a++) {
+            for (int b = a + 1; b < nodes; b++) {
+                edges[a][b] = random.nextInt(10) < tenths;
+            }
+        }
+        return edges;
+    }
+
+    /** Every call with every two of the arguments at the bounds and far from them. */
+    private static void everyFarArgument() {
+        Random random = new Random(5);
+        boolean[][][] graphs = {
+            new boolean[0][0], new boolean[1][1], new boolean[2][2], new boolean[12][12], allEdges(2), allEdges(11),
+            allEdges(12), someEdges(random, 7), someEdges(random, 12)
+        };
+        for (int i = 0; i < graphs.length; i++) {
+            due.topic("far arguments on graph " + i);
+            for (int kind = 0; kind < Both.KINDS; kind++) {
+                for (int first : FAR_NUMBERS) {
+                    Both both = new Both();
+                    both.build(graphs[i]);
+                    for (int second : Both.takesTwo(kind) ? FAR_NUMBERS : new int[] {0}) {
+                        both.ask(kind, first, second);
                     }
                 }
             }
-            both.askAll(nodes);
+            joinsAndWantsWithFarArguments(graphs[i]);
         }
+    }
+
+    private static void joinsAndWantsWithFarArguments(boolean[][] graph) {
+        for (int first : FAR_NUMBERS) {
+            Both both = new Both();
+            both.build(graph);
+            for (int second : FAR_NUMBERS) {
+                both.join(first, second, false);
+                both.join(first, second, true);
+                both.want(second);
+                both.graphic();
+            }
+            both.askEdges(graph.length);
+            both.clear();
+            both.unwant();
+        }
+    }
+
+    private static boolean[][] allEdges(int nodes) {
+        boolean[][] edges = new boolean[nodes][nodes];
+        for (int a = 0; a < nodes; a++) {
+            for (int b = a + 1; b < nodes; b++) {
+                edges[a][b] = true;
+            }
+        }
+        return edges;
     }
 
     private static void everySmallRow() {
@@ -140,58 +203,79 @@ public final class ModelTest {
 
     /** An object of the class and one of the model; each call goes to both. */
     private static final class Both {
+        private static final int KINDS = 19;
+        private static final int MOST_CALLS = 512;
+
         private final DegreeCores x = new DegreeCores();
         private final Model m = new Model();
+        private int calls = 0;
 
-        void nodes(int count) {
-            for (int i = 0; i < count; i++) {
-                due.is("node()", x.node(), m.node());
+        /** Counts the call too: what an object answers behind its 512th is free, so none is asked then. */
+        private void compare(String call, int got, int want) {
+            calls++;
+            if (calls > MOST_CALLS) {
+                throw new IllegalStateException("an object is asked more than " + MOST_CALLS + " times");
             }
+            due.is(call, got, want);
         }
 
-        void join(int a, int b, boolean is) {
-            due.is("join(" + a + ", " + b + ", " + is + ")", x.join(a, b, is), m.join(a, b, is));
-        }
-
-        void clear() {
-            due.is("clear()", x.clear(), m.clear());
-        }
-
-        void want(int degree) {
-            due.is("want(" + degree + ")", x.want(degree), m.want(degree));
-        }
-
-        void unwant() {
-            due.is("unwant()", x.unwant(), m.unwant());
-        }
-
-        void graphic() {
-            due.is("graphic()", x.graphic(), m.graphic());
-        }
-
-        void make() {
-            due.is("make()", x.make(), m.make());
-        }
-
-        void askEdges(int nodes) {
-            for (int a = 0; a < nodes; a++) {
-                for (int b = 0; b <= nodes; b++) {
-                    due.is("joined(" + a + ", " + b + ")", x.joined(a, b), m.joined(a, b));
-                }
-            }
-        }
-
-        void askAll(int nodes) {
-            for (int kind = 0; kind < KINDS; kind++) {
-                for (int i = -1; i <= nodes; i++) {
-                    for (int j = -1; j <= (takesTwo(kind) ? nodes : -1); j++) {
-                        ask(kind, i, j);
+        /** Nodes as many as rows, and the edges told above the middle, greater node first. */
+        void build(boolean[][] edges) {
+            nodes(edges.length);
+            for (int a = 0; a < edges.length; a++) {
+                for (int b = a + 1; b < edges.length; b++) {
+                    if (edges[a][b]) {
+                        join(b, a, true);
                     }
                 }
             }
         }
 
-        private static final int KINDS = 19;
+        void nodes(int count) {
+            for (int i = 0; i < count; i++) {
+                compare("node()", x.node(), m.node());
+            }
+        }
+
+        void join(int a, int b, boolean is) {
+            compare("join(" + a + ", " + b + ", " + is + ")", x.join(a, b, is), m.join(a, b, is));
+        }
+
+        void clear() {
+            compare("clear()", x.clear(), m.clear());
+        }
+
+        void want(int degree) {
+            compare("want(" + degree + ")", x.want(degree), m.want(degree));
+        }
+
+        void unwant() {
+            compare("unwant()", x.unwant(), m.unwant());
+        }
+
+        void graphic() {
+            compare("graphic()", x.graphic(), m.graphic());
+        }
+
+        void make() {
+            compare("make()", x.make(), m.make());
+        }
+
+        void askEdges(int nodes) {
+            for (int a = 0; a < nodes; a++) {
+                for (int b = 0; b <= nodes; b++) {
+                    compare("joined(" + a + ", " + b + ")", x.joined(a, b), m.joined(a, b));
+                }
+            }
+        }
+
+        void askAll(int kind, int nodes) {
+            for (int i = -1; i <= nodes; i++) {
+                for (int j = -1; j <= (takesTwo(kind) ? nodes : -1); j++) {
+                    ask(kind, i, j);
+                }
+            }
+        }
 
         private static boolean takesTwo(int kind) {
             return kind == 0 || kind >= 7 && kind <= 10 || kind == 14 || kind == 15 || kind == 17;
@@ -200,24 +284,24 @@ public final class ModelTest {
         void ask(int kind, int i, int j) {
             String at = "(" + i + ", " + j + ")";
             switch (kind) {
-                case 0 -> due.is("joined" + at, x.joined(i, j), m.joined(i, j));
-                case 1 -> due.is("degree" + at, x.degree(i), m.degree(i));
-                case 2 -> due.is("core" + at, x.core(i), m.core(i));
-                case 3 -> due.is("coreSet" + at, x.coreSet(i), m.coreSet(i));
-                case 4 -> due.is("peeled" + at, x.peeled(i), m.peeled(i));
-                case 5 -> due.is("layer" + at, x.layer(i), m.layer(i));
-                case 6 -> due.is("triangles()", x.triangles(), m.triangles());
-                case 7 -> due.is("triangle" + at, x.triangle(i, j), m.triangle(i, j));
-                case 8 -> due.is("support" + at, x.support(i, j), m.support(i, j));
-                case 9 -> due.is("truss" + at, x.truss(i, j), m.truss(i, j));
-                case 10 -> due.is("cluster" + at, x.cluster(i, j), m.cluster(i, j));
-                case 11 -> due.is("closed" + at, x.closed(i), m.closed(i));
-                case 12 -> due.is("densest()", x.densest(), m.densest());
-                case 13 -> due.is("density" + at, x.density(i), m.density(i));
-                case 14 -> due.is("firm" + at, x.firm(i, j), m.firm(i, j));
-                case 15 -> due.is("classOf" + at, x.classOf(i, j), m.classOf(i, j));
-                case 16 -> due.is("likeness" + at, x.likeness(i), m.likeness(i));
-                case 17 -> due.is("rich" + at, x.rich(i, j), m.rich(i, j));
+                case 0 -> compare("joined" + at, x.joined(i, j), m.joined(i, j));
+                case 1 -> compare("degree" + at, x.degree(i), m.degree(i));
+                case 2 -> compare("core" + at, x.core(i), m.core(i));
+                case 3 -> compare("coreSet" + at, x.coreSet(i), m.coreSet(i));
+                case 4 -> compare("peeled" + at, x.peeled(i), m.peeled(i));
+                case 5 -> compare("layer" + at, x.layer(i), m.layer(i));
+                case 6 -> compare("triangles()", x.triangles(), m.triangles());
+                case 7 -> compare("triangle" + at, x.triangle(i, j), m.triangle(i, j));
+                case 8 -> compare("support" + at, x.support(i, j), m.support(i, j));
+                case 9 -> compare("truss" + at, x.truss(i, j), m.truss(i, j));
+                case 10 -> compare("cluster" + at, x.cluster(i, j), m.cluster(i, j));
+                case 11 -> compare("closed" + at, x.closed(i), m.closed(i));
+                case 12 -> compare("densest()", x.densest(), m.densest());
+                case 13 -> compare("density" + at, x.density(i), m.density(i));
+                case 14 -> compare("firm" + at, x.firm(i, j), m.firm(i, j));
+                case 15 -> compare("classOf" + at, x.classOf(i, j), m.classOf(i, j));
+                case 16 -> compare("likeness" + at, x.likeness(i), m.likeness(i));
+                case 17 -> compare("rich" + at, x.rich(i, j), m.rich(i, j));
                 default -> graphic();
             }
         }
