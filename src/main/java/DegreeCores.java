@@ -367,7 +367,8 @@ public final class DegreeCores {
      * such a set too, so the greatest has all others in it. Empty where there are no nodes.
      *
      * <p>Each step puts one node in or out, the one that the step's lowest bit names (a Gray code):
-     * so every set comes once, and edges are counted along instead of anew for each set.
+     * so every set comes once, and edges are counted along instead of anew for each set. Steps are
+     * above 0 and below 2 to the power of nodes, so that bit always names a node.
      */
     private int densestBits() {
         int best = 0;

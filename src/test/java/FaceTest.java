@@ -9,6 +9,7 @@ import java.util.Arrays;
 import java.util.HashSet;
 import java.util.Set;
 import java.util.TreeSet;
+import java.util.regex.Matcher;
 import java.util.regex.Pattern;
 
 /** The public face, and those rules of LANGUAGE.md that can be seen without reading the code. */
@@ -28,6 +29,18 @@ public final class FaceTest {
         "\\bRandom\\b", "\\bnanoTime\\b", "\\bcurrentTimeMillis\\b", "\\bstatic\\s*\\{",
     };
 
+    /** What the interface says ahead of which calls. */
+    private static final String[][] SECTIONS = {
+        {"// ---- cores", "degree", "core", "coreSet", "peeled", "layer"},
+        {"// ---- triangles", "triangles", "triangle", "support", "truss", "cluster", "closed"},
+        {"// ---- densest, firm", "densest", "density", "firm", "classOf"},
+        {"// ---- likeness, the rich", "likeness", "rich"},
+        {"// ---- rows of degrees", "want", "unwant", "graphic", "make"},
+    };
+    private static final Set<String> LIBRARY = Set.of(
+            "Integer.bitCount", "Math.abs", "Math.max", "Math.min", "System.arraycopy");
+    private static final int MOST_LINES = 60;
+
     private FaceTest() {
     }
 
@@ -35,7 +48,11 @@ public final class FaceTest {
         face();
         fields();
         names();
-        source();
+        String text = Files.readString(Path.of(SOURCE));
+        sections(text);
+        source(text.replaceAll("(?s)/\\*.*?\\*/", " ").replaceAll("//[^\\n]*", " "));
+        library(text);
+        lengths(text);
         due.end();
     }
 
@@ -95,10 +112,50 @@ public final class FaceTest {
         }
     }
 
-    private static void source() throws IOException {
+    private static void sections(String text) {
+        due.topic("sections");
+        for (String[] section : SECTIONS) {
+            int start = text.indexOf(section[0] + "\n");
+            due.isTrue(section[0] + " is said", start >= 0);
+            int next = text.indexOf("// ----", start + 1);
+            for (int i = 1; i < section.length; i++) {
+                int call = text.indexOf("public int " + section[i] + "(");
+                due.isTrue(section[0] + " is said ahead of " + section[i], call > start && call < next);
+            }
+        }
+    }
+
+    private static void library(String text) {
+        due.topic("library");
+        Matcher used = Pattern.compile("\\b([A-Z]\\w*\\.\\w+)\\(").matcher(text);
+        int count = 0;
+        while (used.find()) {
+            due.isTrue(used.group(1) + " is of those that LANGUAGE.md lists", LIBRARY.contains(used.group(1)));
+            count++;
+        }
+        due.isTrue("some are used", count > 0);
+    }
+
+    /** A method's last line is the first that is a brace four places in. */
+    private static void lengths(String text) {
+        due.topic("lengths");
+        String[] lines = text.split("\n");
+        int methods = 0;
+        int start = -1;
+        for (int i = 0; i < lines.length; i++) {
+            if (lines[i].matches("    (public|private) .*\\) \\{")) {
+                start = i;
+                methods++;
+            } else if (lines[i].equals("    }")) {
+                due.isTrue(lines[start].trim() + " is short", i - start < MOST_LINES);
+            }
+        }
+        due.isTrue("all methods are looked at", methods == DegreeCores.class.getDeclaredMethods().length + 1);
+    }
+
+    /** The code without its comments. */
+    private static void source(String code) {
         due.topic("source");
-        String text = Files.readString(Path.of(SOURCE));
-        String code = text.replaceAll("(?s)/\\*.*?\\*/", " ").replaceAll("//[^\\n]*", " ");
         for (String word : FORBIDDEN) {
             due.isTrue("no " + word, !Pattern.compile(word).matcher(code).find());
         }
