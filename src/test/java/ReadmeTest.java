@@ -14,8 +14,8 @@ import javax.tools.JavaCompiler;
 import javax.tools.ToolProvider;
 
 /**
- * What README.md shows of the use of the class: its java blocks are compiled as they stand there, and
- * each call that a number stands behind must answer that number.
+ * What README.md shows of the use of the class: its java blocks are compiled, with the answers kept,
+ * and each call that a number stands behind must answer that number.
  */
 public final class ReadmeTest {
     private static final Due due = new Due();
